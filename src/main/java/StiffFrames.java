@@ -94,11 +94,13 @@ public final class StiffFrames {
     }
 
     public int freedom() {
-        return 2 * frame.joints - rank();
+        row.play(PLANE_K, PLANE_L);
+        return 2 * frame.joints - row.size;
     }
 
     public int stiff() {
-        if (frame.joints == 0 || freedom() > PLANE_L) {
+        row.play(PLANE_K, PLANE_L);
+        if (frame.joints == 0 || 2 * frame.joints - row.size > PLANE_L) {
             return 0;
         }
         return row.countSpare() == frame.thereNow ? 2 : 1;
@@ -603,7 +605,9 @@ public final class StiffFrames {
             playedK = k;
             playedL = l;
             pebbles.start(k, l);
-            Arrays.fill(kept, false);
+            for (int bar = 0; bar < MOST_BARS; bar++) {
+                kept[bar] = false;
+            }
             size = 0;
             int length = lineUp();
             for (int i = 0; i < length; i++) {
@@ -943,7 +947,11 @@ public final class StiffFrames {
                 kinds[i] = Integer.bitCount(neighbours);
                 stay &= ~(1 << v);
                 takeAway(v);
-                comes[i] = kinds[i] == 3 ? bridge(neighbours) : NONE;
+                comes[i] = NONE;
+                if (kinds[i] == 3) {
+                    layBoard();
+                    comes[i] = bridge(neighbours);
+                }
             }
         }
 
@@ -983,7 +991,6 @@ public final class StiffFrames {
         }
 
         private int bridge(int neighbours) {
-            layBoard();
             for (int a = 0; a < MOST_JOINTS; a++) {
                 for (int b = a + 1; b < MOST_JOINTS; b++) {
                     // A bar that is between them already would not be allowed twice.

@@ -81,6 +81,7 @@ final class LanguageTest {
             due.holds(calls.group() + " is of the library that is left",
                 Set.of("Arrays.fill", "Integer.bitCount", "Math.min", "Math.max").contains(calls.group()));
         }
+        due.holds("no array of booleans is filled by the library", !code.contains("Arrays.fill(kept") && !code.contains("Arrays.fill(there"));
         due.holds("signs below 128 alone", text.chars().allMatch(sign -> sign < 128));
     }
 

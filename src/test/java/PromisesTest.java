@@ -372,6 +372,20 @@ final class PromisesTest {
         same(23, "nothing has come", greatest.count(1), 0);
     }
 
+    private void fewestAfterChanges() {
+        StiffFrames x = twoSquares();
+        same(23, "fewestAt(1)", x.fewestAt(1), 107);
+        same(23, "fewestAt(2)", x.fewestAt(2), -9);
+        x.joint();
+        same(23, "fewestAt(1) with a joint more", x.fewestAt(1), 8);
+        same(23, "fewestAt(3) with a joint more", x.fewestAt(3), 108);
+        x.bar(0, 8, 0);
+        same(22, "fewest() with its bar", x.fewest(), 3);
+        x.cut(13, true);
+        same(23, "fewestAt(1) with its bar cut", x.fewestAt(1), 107);
+        same(23, "fewestAt(3) with its bar cut", x.fewestAt(3), 208);
+    }
+
     private void back() {
         StiffFrames x = frame(5, 1, 102, 2, 203, 3);
         int[] joints = {4, 1, 0, 2, 3};
@@ -554,6 +568,90 @@ final class PromisesTest {
         }
     }
 
+    private interface Ask {
+        int of(StiffFrames x);
+    }
+
+    /** Each call as the first one that is asked, and again, when others have been asked, after a change. */
+    private void askedFirst(int promise, String call, Ask ask, int first, int withJoint, int withCut) {
+        same(promise, call + " first", ask.of(twoSquares()), first);
+        StiffFrames x = twoSquares();
+        ask.of(x);
+        same(promise, call + " again", ask.of(x), first);
+        x.joint();
+        same(promise, call + " with a joint more", ask.of(x), withJoint);
+        x.cut(0, true);
+        same(promise, call + " with bar 0 cut", ask.of(x), withCut);
+        x.cut(0, false);
+        same(promise, call + " with bar 0 there again", ask.of(x), withJoint);
+        x.bar(8, 0, 0);
+        x.cut(13, true);
+        same(promise, call + " with a cut bar more", ask.of(x), withJoint);
+    }
+
+    private void askedInAnyOrder() {
+        askedFirst(6, "rank()", x -> x.rank(), 11, 11, 11);
+        askedFirst(7, "freedom()", x -> x.freedom(), 5, 7, 7);
+        askedFirst(9, "kept(5)", x -> x.kept(5), 0, 0, 1);
+        askedFirst(10, "spare(1)", x -> x.spare(1), 1, 1, 0);
+        askedFirst(11, "circuit(5)", x -> x.circuit(5), 5, 5, -3);
+        askedFirst(12, "circuitBar(5, 1)", x -> x.circuitBar(5, 1), 1, 1, -3);
+        askedFirst(13, "grows(0, 1)", x -> x.grows(0, 1), 0, 0, 0);
+        askedFirst(14, "clusters()", x -> x.clusters(), 3, 3, 3);
+        askedFirst(15, "size(2)", x -> x.size(2), 4, 4, 4);
+        askedFirst(16, "member(2, 3)", x -> x.member(2, 3), 6, 6, 6);
+        askedFirst(17, "together(0, 7)", x -> x.together(0, 7), 1, 1, 1);
+        askedFirst(18, "hinge(0)", x -> x.hinge(0), 1, 1, 1);
+        askedFirst(19, "pieces()", x -> x.pieces(), 1, 2, 2);
+        askedFirst(20, "cheapest()", x -> x.cheapest(), 0, 0, 0);
+        askedFirst(21, "cheap(5)", x -> x.cheap(5), 0, 0, 1);
+        askedFirst(22, "fewest()", x -> x.fewest(), 2, 4, 4);
+        askedFirst(23, "fewestAt(0)", x -> x.fewestAt(0), 4, 4, 4);
+        askedFirst(24, "back(0, 0)", x -> x.back(0, 0), 7, 8, 8);
+        askedFirst(24, "back(1, 1)", x -> x.back(1, 1), 2, 1, 1);
+        askedFirst(25, "threes()", x -> x.threes(), 0, 0, 0);
+        askedFirst(26, "bundles()", x -> x.bundles(), 3, 3, 7);
+        askedFirst(27, "bundle(11)", x -> x.bundle(11), 1, 1, 5);
+        askedFirst(28, "rankBy(1, 0)", x -> x.rankBy(1, 0), 8, 8, 8);
+        askedFirst(29, "keptBy(2, 1, 1)", x -> x.keptBy(2, 1, 1), 1, 1, 1);
+        askedFirst(30, "tight(1, 0)", x -> x.tight(1, 0), 2, 0, 0);
+        askedFirst(31, "forests()", x -> x.forests(), 2, 2, 2);
+        askedFirst(33, "count(3)", x -> x.count(3), 11, 11, 11);
+        askedFirst(33, "count(4)", x -> x.count(4), 12, 12, 6);
+        askedFirst(33, "count(5)", x -> x.count(5), 2, 2, 2);
+    }
+
+    private void clustersAfterCuts() {
+        StiffFrames x = frame(3, 1, 102, 2);
+        same(14, "clusters()", x.clusters(), 1);
+        x.cut(1, true);
+        same(14, "clusters() with a bar cut", x.clusters(), 2);
+        same(13, "grows(1, 2)", x.grows(1, 2), 1);
+        same(18, "hinge(0)", x.hinge(0), 1);
+        x.cut(0, true);
+        x.cut(2, true);
+        same(14, "clusters() with all cut", x.clusters(), 0);
+        same(26, "bundles() with all cut", x.bundles(), 0);
+        same(24, "back(0, 1) with all cut", x.back(0, 1), 0);
+        same(31, "forests() with all cut", x.forests(), 1);
+        same(30, "tight(1, 0) with all cut", x.tight(1, 0), 1);
+    }
+
+    /** Other counts go by numbers, whatever the costs are. */
+    private void numbersNotCosts() {
+        StiffFrames x = joints(3);
+        x.bar(0, 1, 9);
+        x.bar(0, 2, 8);
+        x.bar(1, 2, 7);
+        same(29, "keptBy(0, 1, 1)", x.keptBy(0, 1, 1), 1);
+        same(29, "keptBy(2, 1, 1)", x.keptBy(2, 1, 1), 0);
+        same(29, "keptBy(2, 1, 0)", x.keptBy(2, 1, 0), 1);
+        same(28, "rankBy(1, 1)", x.rankBy(1, 1), 2);
+        same(28, "rankBy(2, 1)", x.rankBy(2, 1), 3);
+        x.cost(1, 0);
+        same(20, "cheapest() of all three", x.cheapest(), 16);
+    }
+
     public static void main(String[] args) {
         PromisesTest test = new PromisesTest();
         test.newObject();
@@ -575,6 +673,7 @@ final class PromisesTest {
         test.pieces();
         test.cheapest();
         test.fewest();
+        test.fewestAfterChanges();
         test.back();
         test.backPastBars();
         test.backWithOthers();
@@ -586,6 +685,9 @@ final class PromisesTest {
         test.forests();
         test.barOf();
         test.count();
+        test.askedInAnyOrder();
+        test.clustersAfterCuts();
+        test.numbersNotCosts();
         test.due.end();
     }
 }
