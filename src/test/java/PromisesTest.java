@@ -117,6 +117,23 @@ final class PromisesTest {
         same(3, "count(16)", x.count(16), 2);
     }
 
+    /** All 80 bars in use, and the last two of them needed. */
+    private void neededAmongEighty() {
+        StiffFrames x = allBars(13);
+        x.joint();
+        x.bar(13, 0, 999);
+        x.bar(13, 1, 999);
+        same(10, "spare(79)", x.spare(79), 0);
+        same(10, "spare(77)", x.spare(77), 1);
+        same(33, "count(4)", x.count(4), 78);
+        same(8, "stiff()", x.stiff(), 1);
+        same(26, "bundles()", x.bundles(), 3);
+        same(27, "bundle(79)", x.bundle(79), 2);
+        same(11, "circuit(77)", x.circuit(77), 5);
+        same(20, "cheapest()", x.cheapest(), 1998);
+        same(31, "forests()", x.forests(), -9);
+    }
+
     private void cut() {
         StiffFrames x = frame(3, 1, 102);
         same(4, "cut(0, false)", x.cut(0, false), 0);
@@ -658,6 +675,7 @@ final class PromisesTest {
         test.joint();
         test.bar();
         test.eightyBars();
+        test.neededAmongEighty();
         test.cut();
         test.cost();
         test.rankAndFreedom();
