@@ -495,6 +495,23 @@ final class PromisesTest {
         same(28, "count(16)", x.count(16), 5);
     }
 
+    /** Bars that are left by K, L among the last joints that there can be. */
+    private void rankByAtLastJoints() {
+        StiffFrames x = joints(24);
+        for (int a = 17; a < 24; a++) {
+            for (int b = a + 1; b < 24; b++) {
+                x.bar(a, b, 0);
+            }
+        }
+        int[] due = {21, 20, 19, 18, 17, 16};
+        for (int l = 0; l < due.length; l++) {
+            same(28, "rankBy(3, " + l + ")", x.rankBy(3, l), due[l]);
+        }
+        same(28, "rankBy(2, 3)", x.rankBy(2, 3), 11);
+        same(15, "size(0)", x.size(0), 7);
+        same(16, "member(0, 6)", x.member(0, 6), 23);
+    }
+
     private void keptBy() {
         StiffFrames x = allBars(4);
         same(29, "keptBy(3, 1, 1)", x.keptBy(3, 1, 1), 0);
@@ -698,6 +715,7 @@ final class PromisesTest {
         test.bundles();
         test.bundlesThroughThird();
         test.rankBy();
+        test.rankByAtLastJoints();
         test.keptBy();
         test.tight();
         test.forests();
