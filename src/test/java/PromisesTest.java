@@ -1,41 +1,6 @@
 /** For each promise of the document: ordinary calls, the edges that it names, and wrong ones. */
-final class PromisesTest {
-    private static final int LOW = Integer.MIN_VALUE;
-    private static final int HIGH = Integer.MAX_VALUE;
-
+final class PromisesTest extends Frames {
     private final Due due = new Due();
-
-    private static StiffFrames joints(int n) {
-        StiffFrames x = new StiffFrames();
-        for (int i = 0; i < n; i++) {
-            x.joint();
-        }
-        return x;
-    }
-
-    /** Joints, and bars of cost 0 between the pairs that follow, written as 100 times one and the other. */
-    private static StiffFrames frame(int n, int... pairs) {
-        StiffFrames x = joints(n);
-        for (int pair : pairs) {
-            x.bar(pair / 100, pair % 100, 0);
-        }
-        return x;
-    }
-
-    private static StiffFrames allBars(int n) {
-        StiffFrames x = joints(n);
-        for (int a = 0; a < n; a++) {
-            for (int b = a + 1; b < n; b++) {
-                x.bar(a, b, 0);
-            }
-        }
-        return x;
-    }
-
-    /** Two stiff squares with both their diagonals, on joints 0 1 2 3 and 3 4 5 6, and a joint 7 with a bar to 0. */
-    private static StiffFrames twoSquares() {
-        return frame(8, 1, 102, 203, 3, 2, 103, 304, 405, 506, 306, 305, 406, 7);
-    }
 
     private void same(int promise, String call, int got, int want) {
         due.same("promise " + promise + ": " + call, got, want);
