@@ -61,6 +61,7 @@ abstract class Edges extends Frames {
     /** An answer alone, where the rows' own calls would be too many. */
     final void told(String words, String what, int got, int want) {
         quotes.quote(promise, words);
+        due.holds(name(words, what) + ": the document says so", quotes.says(promise, words));
         due.same(name(words, what), got, want);
     }
 
@@ -71,20 +72,29 @@ abstract class Edges extends Frames {
     private void row(String words, String what, Make make, Ask ask, int want) {
         String name = name(words, what);
         due.holds(name + ": the document says so", quotes.says(promise, words));
-        StiffFrames x = make.frame();
-        int[] before = refusals(x);
-        due.same(name, ask.of(x), want);
-        int[] after = refusals(x);
-        for (int i = 0; i < REFUSALS; i++) {
-            int more = want == -1 - i ? 1 : 0;
-            due.same(name + ": count(" + (FIRST_REFUSAL + i) + ")", after[i], before[i] + more);
+        try {
+            StiffFrames x = make.frame();
+            int[] before = refusals(x);
+            due.same(name, ask.of(x), want);
+            int[] after = refusals(x);
+            for (int i = 0; i < REFUSALS; i++) {
+                int more = want == -1 - i ? 1 : 0;
+                due.same(name + ": count(" + (FIRST_REFUSAL + i) + ")", after[i], before[i] + more);
+            }
+        } catch (RuntimeException thrown) {
+            due.holds(name + ": nothing is thrown, but " + thrown, false);
         }
     }
 
     private void staysAsItWas(String words, String what, Make make, Ask ask) {
-        StiffFrames asked = make.frame();
-        ask.of(asked);
-        due.holds(name(words, what) + ": nothing else has changed", all(asked).equals(all(make.frame())));
+        String name = name(words, what);
+        try {
+            StiffFrames asked = make.frame();
+            ask.of(asked);
+            due.holds(name + ": nothing else has changed", all(asked).equals(all(make.frame())));
+        } catch (RuntimeException thrown) {
+            due.holds(name + ": nothing is thrown, but " + thrown, false);
+        }
     }
 
     private static int[] refusals(StiffFrames x) {

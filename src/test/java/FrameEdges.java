@@ -327,7 +327,19 @@ final class FrameEdges extends Edges {
     private void calls512() {
         promise(0);
         told("at most 512 calls", "the 512th", used(511).rank(), 2);
+        told("at most 512 calls", "256 changes between two looks", lookedAtLate().rank(), 2);
         told("at most 512 calls", "the 512th, a joint", used(511).joint(), 3);
+    }
+
+    /** So many changes that a narrow counter of them would be where it was. */
+    private static StiffFrames lookedAtLate() {
+        StiffFrames x = triangle();
+        x.rank();
+        for (int i = 0; i < 255; i++) {
+            x.cut(2, i % 2 == 0);
+        }
+        x.cost(0, 1);
+        return x;
     }
 
     /** Some calls, of which every other one changes the frame; at the end bar 2 is cut. */

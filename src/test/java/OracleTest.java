@@ -1,3 +1,6 @@
+import java.util.ArrayList;
+import java.util.Collections;
+import java.util.List;
 import java.util.Random;
 
 /** Random runs of calls, right and wrong ones, of StiffFrames and of the Oracle side by side. */
@@ -218,6 +221,51 @@ final class OracleTest {
         askAll();
     }
 
+    /** Stiff, with many joints of three bars and few of two, so that steps 3 come often. */
+    private void grown(int joints, int more) {
+        for (int i = 0; i < joints; i++) {
+            joint();
+        }
+        List<Integer> numbers = new ArrayList<>();
+        for (int i = 0; i < joints; i++) {
+            numbers.add(i);
+        }
+        Collections.shuffle(numbers, random);
+        List<int[]> pairs = pairsBySteps(joints);
+        Collections.shuffle(pairs, random);
+        for (int[] pair : pairs) {
+            int a = numbers.get(pair[0]);
+            int b = numbers.get(pair[1]);
+            same("bar(" + a + ", " + b + ", 0)", x.bar(a, b, 0), y.bar(a, b, 0));
+        }
+        for (int i = 0; i < more; i++) {
+            bar(5);
+        }
+        for (int i = 0; i < joints; i++) {
+            for (int what = 0; what < 3; what++) {
+                askOfTwo(3, i, what);
+            }
+        }
+        askPlain(7);
+    }
+
+    /** Each joint comes with two bars, or with three for one that goes. */
+    private List<int[]> pairsBySteps(int joints) {
+        List<int[]> pairs = new ArrayList<>();
+        pairs.add(new int[] {0, 1});
+        for (int v = 2; v < joints; v++) {
+            int[] old = pairs.get(random.nextInt(pairs.size()));
+            int third = random.nextInt(v);
+            if (third != old[0] && third != old[1]) {
+                pairs.remove(old);
+                pairs.add(new int[] {third, v});
+            }
+            pairs.add(new int[] {old[0], v});
+            pairs.add(new int[] {old[1], v});
+        }
+        return pairs;
+    }
+
     private void judges() {
         for (int k = 1; k <= 3; k++) {
             for (int l = 0; l < 2 * k; l++) {
@@ -243,6 +291,9 @@ final class OracleTest {
         }
         for (int seed = 0; seed < 40 && due.wrong() < 20; seed++) {
             new OracleTest(due, "middling, all asked", seed).built(8 + seed % 6, 8 + seed % 23, seed % 6);
+        }
+        for (int seed = 0; seed < 1000 && due.wrong() < 20; seed++) {
+            new OracleTest(due, "grown", seed).grown(6 + seed % 19, seed % 5);
         }
         int[][] greats = {{24, 80, 0}, {24, 60, 8}, {24, 50, 4}, {24, 46, 0}, {13, 78, 0}, {16, 80, 25}, {20, 40, 2}};
         for (int i = 0; i < greats.length && due.wrong() < 20; i++) {

@@ -168,7 +168,8 @@ final class PartEdges extends Edges {
         promise(0);
         answers("a JOINT with no BAR of these goes at once", "its number is the greatest", () -> frame(3, 1), x -> x.back(0, 0), 2);
         answers("of several the least number", "all with one", () -> frame(4, 203, 1), x -> x.back(0, 0), 0);
-        answers("the JOINT of the fewest BARS", "one of one", () -> frame(4, 1, 2, 102, 203), x -> x.back(0, 0), 3);
+        answers("the JOINT of the fewest BARS", "the last", () -> frame(4, 1, 2, 102, 203), x -> x.back(0, 0), 3);
+        answers("the JOINT of the fewest BARS", "one between", () -> frame(4, 2, 3, 203, 102), x -> x.back(0, 0), 1);
         answers("of the KEPT BARS alone", "a bar that is left is none", () -> lastLeft(), x -> x.back(0, 0), 2);
         answers("till none is left", "the last one has no bar", () -> triangle(), x -> 10 * x.back(2, 0) + x.back(2, 1), 20);
     }
@@ -281,12 +282,18 @@ final class PartEdges extends Edges {
         promise(0);
         answers("who is in no CIRCUIT is a BUNDLE alone", "one bar beside", () -> twoSquares(), x -> x.bundles(), 3);
         answers("or both of one BUNDLE with a third one", "two circuits with a bar", () -> atOneBar(), x -> x.bundles(), 1);
+        answers("or both of one BUNDLE with a third one", "a later one joins them", () -> joinedLate(), x -> x.bundle(6), 0);
         answers("or both of one BUNDLE with a third one", "two at a joint", () -> twoSquares(), x -> x.bundle(11), 1);
     }
 
     /** All bars of joints 0 1 2 3 and of 2 3 4 5: the bar between 2 and 3 is of both. */
     private static StiffFrames atOneBar() {
         return frame(6, 1, 2, 3, 102, 103, 203, 204, 205, 304, 305, 405);
+    }
+
+    /** Bars 1 to 6 are one bundle by bar 6, and bar 10 joins them, by bar 1, to bar 0. */
+    private static StiffFrames joinedLate() {
+        return frame(6, 405, 203, 2, 3, 102, 103, 1, 204, 205, 304, 305);
     }
 
     private void bundle() {

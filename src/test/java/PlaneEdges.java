@@ -245,7 +245,15 @@ final class PlaneEdges extends Edges {
         answers(words, "one left", () -> cheapLast(), x -> x.cheapest(), 9);
         answers(words, "the greatest", () -> full(), x -> x.cheapest(), 44955);
         does(words, "another cost", () -> cheapLast(), x -> x.cost(5, 2) + x.cheapest(), 11);
+        answers(words, "another cost since it was told", () -> dearerSince(), x -> x.cheapest(), 10);
         does(words, "from the greatest to the least", () -> strip(2, 999), x -> x.cost(0, 0) + x.cheapest(), 999);
+    }
+
+    private static StiffFrames dearerSince() {
+        StiffFrames x = cheapLast();
+        x.cheapest();
+        x.cost(5, 3);
+        return x;
     }
 
     private void cheap() {
