@@ -37,7 +37,7 @@ abstract class Edges extends Frames {
     /** A call that changes the frame as it may: it is no refusal. */
     final void does(String words, String what, Make make, Ask ask, int want) {
         quotes.quote(promise, words);
-        row(words, what, make, ask, want);
+        row(words, what, make, ask, want, 0);
     }
 
     /** A call that only tells: nothing changes, and it is no refusal. */
@@ -48,13 +48,13 @@ abstract class Edges extends Frames {
 
     /** A refused call: nothing changes but how many of its number there were. */
     final void refused(String words, String what, Make make, Ask ask, int want) {
-        does(words, what, make, ask, want);
-        staysAsItWas(words, what, make, ask);
+        quotes.quote(promise, words);
+        first(words, what, make, ask, want);
     }
 
-    /** A call that two answers fit: the one that goes ahead. As it says nothing new of either, nothing is quoted by it. */
+    /** A refused call that another answer fits too; as it says nothing new of either, nothing is quoted by it. */
     final void first(String words, String what, Make make, Ask ask, int want) {
-        row(words, what, make, ask, want);
+        row(words, what, make, ask, want, want);
         staysAsItWas(words, what, make, ask);
     }
 
@@ -69,7 +69,7 @@ abstract class Edges extends Frames {
         return "promise " + promise + " \"" + words + "\", " + what;
     }
 
-    private void row(String words, String what, Make make, Ask ask, int want) {
+    private void row(String words, String what, Make make, Ask ask, int want, int refusal) {
         String name = name(words, what);
         due.holds(name + ": the document says so", quotes.says(promise, words));
         try {
@@ -78,7 +78,7 @@ abstract class Edges extends Frames {
             due.same(name, ask.of(x), want);
             int[] after = refusals(x);
             for (int i = 0; i < REFUSALS; i++) {
-                int more = want == -1 - i ? 1 : 0;
+                int more = refusal == -1 - i ? 1 : 0;
                 due.same(name + ": count(" + (FIRST_REFUSAL + i) + ")", after[i], before[i] + more);
             }
         } catch (RuntimeException thrown) {
